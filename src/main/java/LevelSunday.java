@@ -774,7 +774,10 @@ public final class LevelSunday {
 
     /** The fewest who sit and can't be level by any sawing, the least such set; 0 without. */
     private int clashingIn(int year) {
-        heights.take(church, year);
+        // If all can be level, so can any of them alone.
+        if (sawAsLongAsCan(year, year) == year) {
+            return 0;
+        }
         int best = 0;
         int fewest = MOST_PEOPLE + 1;
         for (int set = 1; set <= heights.sitting; set++) {
