@@ -1585,7 +1585,7 @@ public final class LevelSunday {
         }
     }
 
-    /** Books given, person by person, each time to those ahead of whom all are still level. */
+    /** Books given person by person; a way is left as soon as those who have been looked at are not level. */
     private static final class BookSearch {
         private static final int SETS = 32;
         /** A row of owners is a number of nines: 0 nobody, else the person and 1; book 0 has the highest place. */
@@ -1623,10 +1623,14 @@ public final class LevelSunday {
         }
 
         int ownerOf(int book) {
-            if (best == NONE || book < 0 || book >= MOST_BOOKS) {
+            if (best == NONE) {
                 return NONE;
             }
-            return best / WEIGHT[book] % 9 - 1;
+            int row = best;
+            for (int later = MOST_BOOKS - 1; later > book; later--) {
+                row /= 9;
+            }
+            return row % 9 - 1;
         }
 
         private void begin(int year) {
@@ -1665,11 +1669,14 @@ public final class LevelSunday {
             int topWas = top[group];
             // Each set of books that are left, from the whole one down to the empty one.
             for (int set = left; set >= 0; set = set == 0 ? -1 : set - 1 & left) {
-                int height = base[person] + setHigh[set];
                 int many = Integer.bitCount(set);
+                if (many > most) {
+                    continue;
+                }
+                int height = base[person] + setHigh[set];
                 low[group] = Math.min(lowWas, height);
                 top[group] = Math.max(topWas, height);
-                if (many <= most && top[group] - low[group] <= church.level) {
+                if (top[group] - low[group] <= church.level) {
                     int itsKey = key + many * ROWS + (person + 1) * setWeight[set];
                     give(person + 1, left & ~set, itsKey, most - many);
                 }
@@ -1679,7 +1686,7 @@ public final class LevelSunday {
         }
     }
 
-    /** Hats handed, person by person, the lesser hats first, each time to those ahead of whom all are still level. */
+    /** Hats handed person by person, lesser ones first; a way is left as soon as those looked at are not level. */
     private static final class HatSearch {
         final int[] handedTo = new int[MOST_PEOPLE];
         int found;
@@ -1726,12 +1733,13 @@ public final class LevelSunday {
             int lowWas = low[group];
             int topWas = top[group];
             for (int hat = 0; hat < church.hats && (all || found == 0); hat++) {
+                if ((free >> hat & 1) == 0) {
+                    continue;
+                }
                 int height = base[person] + church.hatHigh[hat];
-                int lowNow = Math.min(lowWas, height);
-                int topNow = Math.max(topWas, height);
-                if ((free >> hat & 1) != 0 && topNow - lowNow <= church.level) {
-                    low[group] = lowNow;
-                    top[group] = topNow;
+                low[group] = Math.min(lowWas, height);
+                top[group] = Math.max(topWas, height);
+                if (top[group] - low[group] <= church.level) {
                     trial[person] = hat;
                     hand(person + 1, free & ~(1 << hat));
                 }

@@ -27,7 +27,8 @@ public final class FaceTest {
 
     private static void face(Checks checks) throws Exception {
         Class<?> face = LevelSunday.class;
-        checks.isTrue("public and final", Modifier.isPublic(face.getModifiers()) && Modifier.isFinal(face.getModifiers()));
+        checks.isTrue("public", Modifier.isPublic(face.getModifiers()));
+        checks.isTrue("final", Modifier.isFinal(face.getModifiers()));
         TreeSet<String> want = new TreeSet<>(java.util.List.of(FACE.split(" ")));
         TreeSet<String> have = new TreeSet<>();
         TreeSet<String> publicNames = new TreeSet<>();
@@ -46,7 +47,8 @@ public final class FaceTest {
             }
         }
         for (Field f : face.getDeclaredFields()) {
-            checks.isTrue(f.getName() + " is private", f.getName().equals("NONE") || Modifier.isPrivate(f.getModifiers()));
+            checks.isTrue(f.getName() + " is private",
+                    f.getName().equals("NONE") || Modifier.isPrivate(f.getModifiers()));
         }
         checks.due("NONE", LevelSunday.NONE, -1);
         checks.due("constructors", face.getConstructors().length, 1);
@@ -58,7 +60,8 @@ public final class FaceTest {
         Class<?>[] classes = LevelSunday.class.getDeclaredClasses();
         checks.isTrue("at most twelve classes", classes.length + 1 <= 12);
         for (Class<?> c : classes) {
-            checks.isTrue(c + " is static", Modifier.isStatic(c.getModifiers()) && !Modifier.isPublic(c.getModifiers()));
+            checks.isTrue(c + " is static", Modifier.isStatic(c.getModifiers()));
+            checks.isTrue(c + " is not public", !Modifier.isPublic(c.getModifiers()));
             int fields = 0;
             for (Field f : c.getDeclaredFields()) {
                 fields += Modifier.isStatic(f.getModifiers()) ? 0 : 1;
