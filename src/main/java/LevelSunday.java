@@ -774,8 +774,10 @@ public final class LevelSunday {
 
     /** The fewest who sit and can't be level by any sawing, the least such set; 0 without. */
     private int clashingIn(int year) {
+        heights.take(church, year);
+        sawing.begin(church);
         // If all can be level, so can any of them alone.
-        if (sawAsLongAsCan(year, year) == year) {
+        if (sawing.settle(heights, heights.sitting, church.level)) {
             return 0;
         }
         int best = 0;

@@ -406,7 +406,6 @@ public final class EdgesTest {
         due("all years", x.lasts(), 30);
         x.law(29);
         due("all but one", x.lasts(), 29);
-        x.stands(0, 0);
         LevelSunday y = Checks.church(row("level 0 by row", 100, 101));
         due("not even year 0", y.lasts(), -1);
         due("nobody sits", Checks.church(BARE).lasts(), 30);
