@@ -265,6 +265,11 @@ public final class EdgesTest {
         LevelSunday x = Checks.church(row("level 5 by all", 100, 220, 105));
         x.sits(1, -1, 0);
         due("who doesn't sit doesn't count", x.level(0), 1);
+        LevelSunday y = Checks.church("church pews 2 places 2 level 0 by row; person tall 100 grows 0 heel 0;"
+                + "person tall 150 grows 0 heel 0; sits 0 0 0; sits 1 0 1;");
+        due("one row", y.level(0), 0);
+        y.sits(1, 1, 1);
+        due("one of them went to another row", y.level(0), 1);
     }
 
     private static void first() {
@@ -542,6 +547,12 @@ public final class EdgesTest {
         due("there is none", y.handed(0, 1), -1);
         due("there is none, no such one", y.handed(0, 2), -2);
         due("there is none, no such year", y.handed(31, 0), -2);
+        LevelSunday z = Checks.church("church pews 1 places 2 level 0 by all; person tall 100 grows 2 heel 0;"
+                + "person tall 101 grows 0 heel 0; sits 0 0 0; sits 1 0 1; hat 3; hat 2;");
+        due("asked first of all", z.handed(0, 0), 0);
+        due("the other way in year 1", z.handed(1, 0), 1);
+        due("as ever in year 0", z.handed(0, 0), 0);
+        due("none in year 2", z.handed(2, 0), -1);
     }
 
     private static void rings() {
@@ -574,6 +585,8 @@ public final class EdgesTest {
         due("none wears one", bare.rings(0, 1), 0);
         bare.wears(0, 0);
         due("one that stays", bare.rings(0, 0), 0);
+        LevelSunday absent = Checks.church(row("level 0 by all", 100) + "person tall 100 grows 0 heel 0; hat 0; wears 1 0;");
+        due("from one who sits nowhere to one without", absent.rings(0, 0), 0);
         due("nobody sits", Checks.church(BARE).rings(0, 0), 0);
         LevelSunday none = Checks.church(row("level 0 by all", 100));
         due("there is no way", none.rings(0, 0), -1);
@@ -750,6 +763,11 @@ public final class EdgesTest {
                 + "trench 3 1 1; trench 3 2 1; trench 3 3 1;");
         due("pew 3, place 4", last.seat(1, 0), 304);
         due("without a church", new LevelSunday().seat(0, 0), -2);
+        LevelSunday rows = Checks.church("church pews 2 places 2 level 0 by row; person tall 100 grows 0 heel 0;"
+                + "person tall 150 grows 0 heel 0; sits 0 0 0;");
+        due("not beside one who is lower", rows.seat(1, 0), 100);
+        rows.sits(1, 0, 1);
+        due("his old row is level without him", rows.seat(1, 0), 100);
     }
 
     private static void sits() {
@@ -817,6 +835,14 @@ public final class EdgesTest {
         due("of 0 with 1", y.pair(0), 1);
         due("who sits where stays", y.who(0, 0), 0);
         due("how high they are stays", y.spread(-1, 0), 20);
+        LevelSunday z = Checks.church("church pews 3 places 1 level 0 by row; pew 0 up 20 saws 0; pew 1 up 10 saws 0;"
+                + "person tall 170 grows 0 heel 0; person tall 160 grows 0 heel 0; person tall 150 grows 0 heel 0;"
+                + "sits 0 0 0; sits 1 1 0; sits 2 2 0;");
+        // 40 apart; 0 with 1: 30; 0 with 2: 0; 1 with 2: 30.
+        due("the best, neither the first nor the last that is better", z.pair(0), 2);
+        LevelSunday absent = Checks.church("church pews 2 places 1 level 0 by row; pew 0 up 10 saws 0;"
+                + "person tall 150 grows 0 heel 0;".repeat(3) + "sits 0 0 0; sits 1 1 0;");
+        due("not with one who sits nowhere", absent.pair(0), -1);
     }
 
     private static void wears() {

@@ -341,6 +341,12 @@ public final class RowsTest {
         for (int what = 0; what < least.length; what++) {
             due("of the least count(" + what + ")", y.count(what), least[what]);
         }
+        x.end(0);
+        due("a church of no lines", x.church(), 0);
+        for (int what = 0; what < 11; what++) {
+            due("without a church count(" + what + ")", x.count(what), 0);
+        }
+        due("slots stay", x.count(11), 4);
     }
 
     private static void images() {
