@@ -31,6 +31,7 @@ public final class BoundsTest {
         bytes();
         longNumbers();
         misplaced();
+        spelt();
         endings();
         firstByPlace();
         fullTape();
@@ -460,6 +461,33 @@ public final class BoundsTest {
             s.append(tokens[k]).append(' ');
         }
         return s.toString();
+    }
+
+    /** A word with one letter other, more or less is none that can stand there. */
+    private static void spelt() {
+        spelt(LARGE + MAN + String.join("", LINES));
+        spelt(SMALL);
+    }
+
+    private static void spelt(String text) {
+        taken(text.split(";").length, text);
+        for (int i = 0; i < text.length(); i++) {
+            if (!Character.isLetter(text.charAt(i))) {
+                continue;
+            }
+            int from = i;
+            while (from > 0 && Character.isLetter(text.charAt(from - 1))) {
+                from--;
+            }
+            String ahead = text.substring(0, from) + "^" + text.substring(from, i);
+            String behind = text.substring(i + 1);
+            char letter = text.charAt(i);
+            char next = letter == 'z' ? 'y' : (char) (letter + 1);
+            fault(1, ahead + next + behind);
+            fault(1, ahead + behind);
+            fault(1, ahead + letter + letter + behind);
+            fault(1, ahead + Character.toUpperCase(letter) + behind);
+        }
     }
 
     private static void endings() {

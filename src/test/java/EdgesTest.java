@@ -26,6 +26,7 @@ public final class EdgesTest {
         saws();
         ways();
         ever();
+        everOfBoth();
         lasts();
         clash();
         cut();
@@ -51,6 +52,7 @@ public final class EdgesTest {
         digs();
         law();
         least();
+        lowestOfAll();
         CHECKS.finish();
     }
 
@@ -303,6 +305,9 @@ public final class EdgesTest {
         due("nobody sits", x.out(0, 1), -1);
         due("nobody sits, no such what", x.out(0, 2), -2);
         due("nobody sits, no such year", x.out(31, 1), -2);
+        LevelSunday inch = Checks.church(row("level 0 by row", 150, 151, 149));
+        due("taller by an inch", inch.out(0, 0), 1);
+        due("lower by an inch", inch.out(0, 1), 2);
         due("one alone, tallest", Checks.church(row("level 0 by row", 150)).out(0, 0), 0);
         due("one alone, lowest", Checks.church(row("level 0 by row", 150)).out(0, 1), 0);
     }
@@ -403,6 +408,19 @@ public final class EdgesTest {
         due("sawn(2, 1)", y.sawn(2, 1), 4);
     }
 
+    /** He who was sawn down stays so: as the other grows, the lowest is he. */
+    private static void everOfBoth() {
+        LevelSunday x = Checks.church("church pews 2 places 1 level 9 by all; pew 0 up 0 saws 9; pew 1 up 0 saws 9;"
+                + "person tall 100 grows 9 heel 0; person tall 118 grows 0 heel 0; sits 0 0 0; sits 1 1 0;");
+        due("at first the other", x.ever(0), 9);
+        due("till year 2", x.ever(2), 9);
+        due("then both", x.ever(3), 18);
+        due("of him who grows", x.sawn(3, 0), 9);
+        due("of the other", x.sawn(3, 1), 9);
+        due("no more", x.ever(4), -1);
+        due("it lasts", x.lasts(), 3);
+    }
+
     private static void lasts() {
         LevelSunday x = Checks.church("church pews 1 places 2 level 0 by row; person tall 100 grows 1 heel 0;"
                 + "person tall 100 grows 0 heel 0; sits 0 0 0; sits 1 0 1;");
@@ -485,6 +503,7 @@ public final class EdgesTest {
         due("none do", y.books(0), -1);
         due("none do", y.given(0, 0), -1);
         due("none do, no such book", y.given(0, 1), -2);
+        due("none of five do", Checks.church(row("level 0 by all", 100, 106) + "book 1;".repeat(5)).given(0, 4), -1);
         due("none do, no such year", y.given(31, 0), -2);
         LevelSunday away = Checks.church(row("level 0 by all", 100, 100) + "person tall 100 grows 0 heel 0; book 1;"
                 + "stands 2 0;");
@@ -530,6 +549,10 @@ public final class EdgesTest {
         due("apart by level", Checks.church(row("level 29 by all", 100, 100) + "hat 0; hat 29;").hats(0), 2);
         due("apart by more", Checks.church(row("level 29 by all", 100, 100) + "hat 0; hat 30;").hats(0), 0);
         due("by row", Checks.church(pews("level 0 by row", 0, 100, 200) + "hat 0; hat 30;").hats(0), 2);
+        LevelSunday x = Checks.church(BARE + "person tall 100 grows 0 heel 0;".repeat(3) + "sits 1 0 0;"
+                + "hat 1; hat 1; book 1;");
+        due("one between two who sit nowhere", x.hats(0), 2);
+        due("books likewise", x.gifts(0), 2);
     }
 
     private static void handed() {
@@ -625,6 +648,7 @@ public final class EdgesTest {
         due("hats count", Checks.church(row("level 5 by all", 100, 105) + "hat 1; wears 1 0;").kinds(0), 2);
         due("books count", Checks.church(row("level 5 by all", 100, 105) + "book 1; stands 1 0;").kinds(0), 2);
         due("by row alike", Checks.church(row("level 5 by row", 100, 106)).kinds(0), 2);
+        due("in any order", Checks.church(row("level 0 by row", 150, 100, 150, 120, 100)).kinds(0), 3);
     }
 
     private static void wide() {
@@ -959,5 +983,38 @@ public final class EdgesTest {
         due("saws mend no row", Checks.church(row("level 0 by row", 100, 104) + "pew 0 up 0 saws 9;").least(0, 1), 4);
         due("sawn to nothing", Checks.church(pews("level 0 by all", 9, 109, 100)).least(0, 1), 0);
         due("sawn to one", Checks.church(pews("level 0 by all", 9, 110, 100)).least(0, 1), 1);
+    }
+
+    /** Tall 100, without a heel, in the deepest trench of the lowest pew, all sawn: 9 inches below 0. */
+    private static void lowestOfAll() {
+        LevelSunday x = Checks.church("church pews 2 places 2 level 0 by all; pew 0 down 40 saws 9; pew 1 down 40 saws 9;"
+                + "trench 0 0 60; trench 0 1 60; trench 1 0 60;" + "person tall 100 grows 0 heel 0;".repeat(3)
+                + "sits 0 0 0; sits 1 0 1; hat 0; hat 0; book 30;");
+        x.cut(0, 9);
+        due("high", x.high(0, 0), -9);
+        due("spread", x.spread(-1, 0), 0);
+        due("level", x.level(0), 1);
+        due("out", x.out(0, 0), 0);
+        due("above", x.above(1, 0), 0);
+        due("saws", x.saws(0), 0);
+        due("ways", x.ways(0), 10);
+        due("clash", x.clash(0), -1);
+        due("books", x.books(0), 0);
+        due("gifts", x.gifts(0), 1);
+        due("hats", x.hats(0), 2);
+        due("handed", x.handed(0, 1), 1);
+        due("stilts", x.stilts(0, 0), 0);
+        due("least", x.least(0, 0), 0);
+        due("away", x.away(0), 0);
+        x.sits(2, 1, 0);
+        due("at 0", x.high(2, 0), 0);
+        due("he is taller", x.above(2, 0), 2);
+        due("he is sawn down to them", x.saw(0, 1), 9);
+        due("in no other way", x.ways(0), 1);
+        due("least as it is", x.least(0, 0), 9);
+        due("least, sawn", x.least(0, 1), 0);
+        due("nobody can be level with a hat", x.hats(0), 0);
+        due("his stilts", x.stilts(2, 0), -1);
+        due("he stays away", x.stay(0), 4);
     }
 }
