@@ -1669,10 +1669,9 @@ public final class LevelSunday {
             int group = church.byAll ? 0 : church.people.pewOf[person];
             int lowWas = low[group];
             int topWas = top[group];
-            // Each set of books that are left, from the whole one down to the empty one.
-            for (int set = left; set >= 0; set = set == 0 ? -1 : set - 1 & left) {
+            for (int set = 0; set <= left; set++) {
                 int many = Integer.bitCount(set);
-                if (many > most) {
+                if ((set & ~left) != 0 || many > most) {
                     continue;
                 }
                 int height = base[person] + setHigh[set];

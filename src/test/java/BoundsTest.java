@@ -326,6 +326,10 @@ public final class BoundsTest {
         fault(2, SMALL + "hat 0;".repeat(7) + "hat ^31; hat 0; hat 0;");
         fault(1, SMALL + "hat 0;".repeat(8) + "^;hat 0;");
         fault(1, SMALL + "hat 0;".repeat(8) + "^hats 0;");
+        // Where its word can't stand that is the least of the two.
+        fault(1, SMALL + MAN.repeat(8) + "hat ^person tall 100 grows 0 heel 0;");
+        fault(1, SMALL + "hat 0;".repeat(8) + "book 1 ^hat 0;");
+        fault(1, SMALL + "book 1;".repeat(5) + "pew ^book 1;");
         LevelSunday x = taken(22, SMALL + MAN.repeat(8) + "hat 0;".repeat(8) + "book 1;".repeat(5));
         due("eight people", x.count(4), 8);
         due("eight hats", x.count(6), 8);

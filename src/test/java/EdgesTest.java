@@ -738,6 +738,12 @@ public final class EdgesTest {
         due("the other", first.hump(0, 0, 1), 3);
         first.sits(3, -1, 0);
         due("nobody between", first.hump(0, 0, 0), 0);
+        LevelSunday books = Checks.church(row("level 0 by row", 100, 100, 100) + "book 30;".repeat(5));
+        books.sits(1, -1, 0);
+        due("nobody between, books on which nobody stands", books.hump(0, 0, 0), 0);
+        books.stands(1, 0);
+        books.sits(1, 0, 1);
+        due("one between on a book", books.hump(0, 0, 0), 1);
         due("without a church", new LevelSunday().hump(0, 0, 0), -2);
     }
 

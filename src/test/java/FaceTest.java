@@ -21,6 +21,7 @@ public final class FaceTest {
         inside(checks);
         if (args.length > 0) {
             text(checks, Files.readString(Path.of(args[0])));
+            lengths(checks, Files.readString(Path.of(args[0])));
         }
         checks.finish();
     }
@@ -37,6 +38,12 @@ public final class FaceTest {
                 have.add(m.getName() + "/" + m.getParameterCount());
                 publicNames.add(m.getName());
                 checks.isTrue(m.getName() + " answers an int", m.getReturnType() == int.class);
+                checks.isTrue(m.getName() + " is asked of an object", !Modifier.isStatic(m.getModifiers()));
+                Class<?>[] types = m.getParameterTypes();
+                for (int i = 0; i < types.length; i++) {
+                    boolean isLong = m.getName().equals("write") && i == 2;
+                    checks.isTrue(m.getName() + " takes " + types[i], types[i] == (isLong ? long.class : int.class));
+                }
             }
         }
         checks.isTrue("the face is " + have, have.equals(want));
@@ -51,9 +58,11 @@ public final class FaceTest {
                     f.getName().equals("NONE") || Modifier.isPrivate(f.getModifiers()));
         }
         checks.due("NONE", LevelSunday.NONE, -1);
-        checks.due("constructors", face.getConstructors().length, 1);
-        checks.isTrue("write takes a long",
-                face.getMethod("write", int.class, int.class, long.class).getReturnType() == int.class);
+        Field none = face.getField("NONE");
+        checks.isTrue("NONE is a public constant", none.getType() == int.class
+                && none.getModifiers() == (Modifier.PUBLIC | Modifier.STATIC | Modifier.FINAL));
+        checks.due("constructors", face.getDeclaredConstructors().length, 1);
+        checks.due("it takes nothing", face.getConstructor().getParameterCount(), 0);
     }
 
     private static void inside(Checks checks) {
@@ -74,6 +83,18 @@ public final class FaceTest {
                 checks.isTrue(m + " has no public name", !(" " + FACE).contains(" " + m.getName() + "/"));
             }
         }
+    }
+
+    /** From a line that ends in ") {" and is no statement to the closing one that stands as far in. */
+    private static void lengths(Checks checks, String source) {
+        Matcher methods = Pattern.compile("(?m)^( {4}| {8})(?!if|for|while|switch|\\})(\\S.*\\)) \\{\n(?s:(.*?))\n\\1\\}")
+                .matcher(source);
+        int many = 0;
+        while (methods.find()) {
+            many++;
+            checks.isTrue(methods.group(2) + " is short", methods.group(3).lines().count() <= 60);
+        }
+        checks.isTrue("more methods than the face has: " + many, many > 61);
     }
 
     private static void text(Checks checks, String source) {

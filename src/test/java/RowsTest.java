@@ -196,6 +196,9 @@ public final class RowsTest {
         due("another height", x.odd(0, 0), 0);
         fill(x, 0, 1, 1, 2, 171, 0, 0, 170);
         due("nobody is there", x.odd(0, 0), 1);
+        fill(x, 0, 1, 0, 0, 0);
+        due("nobody is there, and nothing high", x.odd(0, 0), 0);
+        fill(x, 0, 1, 1, 2, 171, 0, 0, 170);
         x.sits(2, 0, 0);
         due("one like that is", x.odd(0, 0), -1);
         x.change(1, 2);
